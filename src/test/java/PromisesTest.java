@@ -345,6 +345,36 @@ public final class PromisesTest {
         dueBounds("A{B;B;}B{C;C;}C{D;D;}D{}{A;A;}", 2 * (4 + 3 + 2 * (4 + 3 + 2 * (4 + 3 + 2 * 7))), 4);
     }
 
+    /** Each instruction by itself: its cost, and that the stack is as high behind it as it has to be. */
+    private static void eachInstruction() {
+        String[] operators = {"+", "-", "*", "/", "<", "="};
+        int[] costs = {1, 1, 5, 20, 1, 1};
+        for (int i = 0; i < operators.length; i++) {
+            dueRunOfBounds("{a=7" + operators[i] + "3;}", 2 + costs[i] + 2, 2);
+            dueRunOfBounds("{a=1+(7" + operators[i] + "3)+(1+1);}", 1 + 2 + costs[i] + 1 + 3 + 1 + 2, 3);
+            dueRunOfBounds("{#2{a=7" + operators[i] + "3;}!1+(1+1);}", 1 + 2 * (3 + 2 + costs[i] + 2) + 3 + 11, 3);
+        }
+        dueRunOfBounds("{}", 0, 0);
+        dueRunOfBounds("{a=1;a=1;a=1+1;}", 3 + 3 + 5, 2);
+        dueRunOfBounds("{a=b;a=b;a=b+b;}", 4 + 4 + 7, 2);
+        dueRunOfBounds("{!1;!1;!1+1;}", 7 + 7 + 9, 2);
+        dueRunOfBounds("{a=1+-[1]+(1+1);}", 1 + 1 + 4 + 1 + 1 + 3 + 1 + 2, 3);
+        dueRunOfBounds("{[1]=2;[1]=2;[1]=2+3;}", 6 + 6 + 8, 3);
+        dueRunOfBounds("{?0{}?0{}{}?0{}!1+1;}", 4 + 4 + 4 + 9, 2);
+        dueRunOfBounds("{?1{!1;}{}?1{!1;}{}!1+1;}", 11 + 11 + 9, 2);
+        dueRunOfBounds("{#0{}#0<0{}#1{}!1+1;}", 4 + 6 + 7 + 9, 2);
+        dueRunOfBounds("A{}{A;A;!1+1;}", 7 + 7 + 9, 2);
+    }
+
+    /** For programs that have but one way. */
+    private static void dueRunOfBounds(String text, int time, int depth) {
+        dueBounds(text, time, depth);
+        TimedCompiler x = Check.with(text);
+        Check.due(text + " run()", x.run(), 0);
+        Check.due(text + " latest(0)", x.latest(0), time);
+        Check.due(text + " latest(1)", x.latest(1), depth);
+    }
+
     private static void procedure() {
         TimedCompiler x = Check.with("D{!1;A;}A{#2{!2+3;}}C{}{?a{D;}{C;}}");
         int[][] due = {
@@ -412,6 +442,7 @@ public final class PromisesTest {
         dueValue("a*b", 65537, 65537, 131073);
         dueValue("a/b", LOWEST, -1, LOWEST);
         dueValue("a/b", -7, 2, -3);
+        dueValue("a/b", 7, 1, 7);
         dueValue("a/b", 7, -2, -3);
         dueValue("-a", LOWEST, 0, LOWEST);
         dueValue("a<b", LOWEST, HIGHEST, 1);
@@ -545,6 +576,7 @@ public final class PromisesTest {
         longOnes();
         code();
         timeAndDepth();
+        eachInstruction();
         procedure();
         setAndGet();
         values();
