@@ -17,18 +17,19 @@ public final class OracleTest {
             return Integer.toString(new Oracle(text).code.size());
         } catch (Oracle.NoProgram e) {
             noPrograms++;
-            return "IllegalArgumentException";
+            return Check.NO_TEXT_OF_A_PROGRAM;
         } catch (Oracle.Refused e) {
             refused++;
-            return "UnsupportedOperationException";
+            return Check.NOT_PLAIN_OR_SHORT;
         }
     }
 
-    private static void compare(TimedCompiler x, String text, Random random) {
+    private static void compare(String text, Random random) {
         String want = verdict(text);
+        Subject x = new Subject();
         String got = Check.compiled(x, text);
         Check.dueText("compile " + text, got, want);
-        if (!Character.isDigit(want.charAt(0)) || !got.equals(want)) {
+        if (!Check.isNumber(want) || !got.equals(want)) {
             Check.due("length " + text, x.length(), text.length());
             return;
         }
@@ -45,10 +46,10 @@ public final class OracleTest {
             Check.due(text + " procedure(" + p + ", 1)", x.procedure(p, 1), oracle.time(p));
             Check.due(text + " procedure(" + p + ", 2)", x.procedure(p, 2), oracle.depth(p));
         }
-        compareRuns(x, text, oracle, random);
+        compareRuns(Check.with(text), text, oracle, random);
     }
 
-    private static void compareRuns(TimedCompiler x, String text, Oracle oracle, Random random) {
+    private static void compareRuns(Subject x, String text, Oracle oracle, Random random) {
         int[] places = new int[14];
         for (int n = 0; n < 3; n++) {
             for (int i = 0; i < 14; i++) {
@@ -64,7 +65,7 @@ public final class OracleTest {
             }
             for (int k = 0; k < 34; k++) {
                 int value = k;
-                String want = k < 32 && k < told.get(4) ? told.get(5 + k).toString() : "IndexOutOfBoundsException";
+                String want = k < 32 && k < told.get(4) ? told.get(5 + k).toString() : Check.NO_SUCH;
                 Check.dueText(from + " output(" + k + ")", Check.answerOf(() -> x.output(value)), want);
             }
             for (int i = 0; i < 14; i++) {
@@ -86,7 +87,7 @@ public final class OracleTest {
                 text = maker.spoiled(text);
             }
             if (text.length() <= 200) {
-                compare(new TimedCompiler(), text, random);
+                compare(text, random);
             }
         }
         System.out.println("OracleTest: " + programs + " programs, " + noPrograms + " of none, " + refused

@@ -17,12 +17,22 @@ public final class WaysTest {
     private static final int RETURN = 1000;
     private static final int TEXTS = 4000;
 
-    private final TimedCompiler x;
+    // Numbers and arguments, read once: an object is used for a few calls only.
+    private final int[][] code;
     private final Map<List<Integer>, Integer> known = new HashMap<>();
     private int highest = 0;
 
-    private WaysTest(TimedCompiler x) {
-        this.x = x;
+    private WaysTest(int[][] code) {
+        this.code = code;
+    }
+
+    private static int[][] codeOf(Subject x, int size) {
+        int[][] code = new int[size][2];
+        for (int k = 0; k < size; k++) {
+            code[k][0] = x.code(k, 0);
+            code[k][1] = x.code(k, 1);
+        }
+        return code;
     }
 
     /** The most cycles from instruction k on with this stack (the top is last) to the end. */
@@ -39,8 +49,8 @@ public final class WaysTest {
     }
 
     private int longestAnew(int k, List<Integer> stack) {
-        int number = x.code(k, 0);
-        int argument = x.code(k, 1);
+        int number = code[k][0];
+        int argument = code[k][1];
         int top = stack.size() - 1;
         switch (number) {
             case END:
@@ -70,7 +80,7 @@ public final class WaysTest {
                 return Math.max(out, 1 + longest(k + 1, stack));
             }
             default:
-                change(number, x.code(k + 1, 0) == LOOP ? argument : ANY, stack);
+                change(number, code[k + 1][0] == LOOP ? argument : ANY, stack);
                 return COST[number] + longest(k + 1, stack);
         }
     }
@@ -85,14 +95,15 @@ public final class WaysTest {
         }
     }
 
-    private static void compare(TimedCompiler x, String text) {
-        WaysTest whole = new WaysTest(x);
+    private static void compare(Subject x, String text, int size) {
+        int[][] code = codeOf(x, size);
+        WaysTest whole = new WaysTest(code);
         Check.due(text + " time()", x.time(), whole.longest(0, new ArrayList<>()));
         Check.due(text + " depth()", x.depth(), whole.highest);
         for (int p = 0; p < 4; p++) {
             int first = x.procedure(p, 0);
             if (first != TimedCompiler.NONE) {
-                WaysTest part = new WaysTest(x);
+                WaysTest part = new WaysTest(code);
                 Check.due(text + " procedure(" + p + ", 1)", x.procedure(p, 1), part.longest(first, List.of(RETURN)));
                 Check.due(text + " procedure(" + p + ", 2)", x.procedure(p, 2), part.highest - 1);
             }
@@ -105,11 +116,11 @@ public final class WaysTest {
         int programs = 0;
         for (int n = 0; n < TEXTS; n++) {
             String text = maker.program(10 + random.nextInt(140));
-            TimedCompiler x = new TimedCompiler();
-            if (text.length() <= 200 && Check.typeAll(x, text) && !Check.answerOf(x::compile).endsWith("Exception")
-                    && x.time() < 5000) {
+            Subject x = new Subject();
+            String size = text.length() <= 200 ? Check.compiled(x, text) : Check.NO_TEXT_OF_A_PROGRAM;
+            if (Check.isNumber(size) && x.time() < 5000) {
                 programs++;
-                compare(x, text);
+                compare(x, text, Integer.parseInt(size));
             }
         }
         System.out.println("WaysTest: " + programs + " programs");
