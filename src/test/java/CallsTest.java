@@ -212,6 +212,16 @@ public final class CallsTest {
         Check.dueThrow("output(0) of it", Check.NO_SUCH, () -> x.output(0));
     }
 
+    private static void latestWordsAreOfTheLatest() {
+        Subject x = Check.with("A{?a{!1+(2+(3+4));}}{A;}");
+        x.set(0, 1);
+        Check.dueRun("a deep run", x, 0, 4 + 3 + 2 + 1 + 13, 5, 1, 1);
+        x.set(0, 0);
+        Check.dueRun("a flat run", x, 0, 4 + 3 + 2 + 3, 2, 1, 0);
+        Check.dueText("compile another", Check.compiled(x, "{}"), "1");
+        Check.dueRun("an empty run", x, 0, 0, 0, 0, 0);
+    }
+
     private static void theFirst32() {
         for (int count = 0; count <= 66; count++) {
             Subject x = Check.with("{#" + count + "{!a*a;a=a+1;}}");
@@ -402,6 +412,7 @@ public final class CallsTest {
         Check.sentence("NONE for any other w", CallsTest::latestOfOtherW);
         Check.sentence("NONE if there was none of this program", CallsTest::latestOfTheShortestRun);
         Check.sentence("About the latest run", CallsTest::latestIsOfTheLatest);
+        Check.sentence("About the latest run: how many words were on the stack at most", CallsTest::latestWordsAreOfTheLatest);
         Check.sentence("of the first 32", CallsTest::theFirst32);
         Check.sentence("also behind compile(), ahead of a run", CallsTest::noOutputBehindCompile);
         Check.sentence("A call that answers false or NONE, or throws, changes nothing", CallsTest::refusedCallsChangeNothing);

@@ -161,6 +161,7 @@ public final class CodeTest {
         for (int i = 0; i < operators.length; i++) {
             dueRunOfBounds("{a=7" + operators[i] + "3;}", 2 + costs[i] + 2, 2);
             dueRunOfBounds("{a=1+(7" + operators[i] + "3)+(1+1);}", 1 + 2 + costs[i] + 1 + 3 + 1 + 2, 3);
+            dueRunOfBounds("{a=(7" + operators[i] + "3)+(1+(1+1));}", 2 + costs[i] + 5 + 1 + 2, 4);
             dueRunOfBounds("{#2{a=7" + operators[i] + "3;}!1+(1+1);}", 1 + 2 * (3 + 2 + costs[i] + 2) + 3 + 11, 3);
         }
         dueRunOfBounds("{}", 0, 0);
@@ -235,6 +236,25 @@ public final class CodeTest {
         dueBounds("A{B;B;}B{C;C;}C{D;D;}D{}{A;A;}", 2 * (4 + 3 + 2 * (4 + 3 + 2 * (4 + 3 + 2 * 7))), 4);
         dueBounds("D{C;C;}C{B;B;}B{A;A;}A{}{D;D;}", 2 * (4 + 3 + 2 * (4 + 3 + 2 * (4 + 3 + 2 * 7))), 4);
         dueBounds("A{?a{!1;}{b=1+(1+1);}}{A;}", 4 + 2 + 3 + 7 + 3, 1 + 3);
+    }
+
+    /** What was compiled on the same object before, or refused there, has no part in it. */
+    private static void numbersOfTheCodeAlone() {
+        String deep = "{!1+(2+(3+(4+(5+6))));#9{#9{[1]=1+(2+(3+4));}}}";
+        String[] others = {deep, "A" + deep + "B{A;!1+(2+(3+4));}{}", "A" + deep + deep, "A{A;}" + deep, deep + "}"};
+        for (String other : others) {
+            Subject x = new Subject();
+            Check.compiled(x, other);
+            Check.dueText("compile", Check.compiled(x, "A{!1;}B{!1;A;}C{!1;}D{C;}{!1;A;}"), "16");
+            Check.due("time()", x.time(), 7 + 4 + 10);
+            Check.due("depth()", x.depth(), 2);
+            int[][] due = {{4, 10, 1}, {7, 7 + 4 + 10 + 3, 2}, {11, 10, 1}, {14, 4 + 10 + 3, 2}};
+            for (int p = 0; p < 4; p++) {
+                for (int w = 0; w < 3; w++) {
+                    Check.due("procedure(" + p + ", " + w + ")", x.procedure(p, w), due[p][w]);
+                }
+            }
+        }
     }
 
     private static void aProceduresOwnReturnIsNotCounted() {
@@ -400,6 +420,7 @@ public final class CodeTest {
         Check.sentence("at most as often as its PUSH or LIMIT says (0)", CodeTest::aLoopOf0HasNoRound);
         Check.sentence("a CALL costs the TIME of the procedure more", CodeTest::aCallCostsTheProcedureMore);
         Check.sentence("a procedure's own lies there at its beginning", CodeTest::aProceduresOwnReturnIsNotCounted);
+        Check.sentence("Both are numbers of the code alone", CodeTest::numbersOfTheCodeAlone);
         Check.sentence("SHORT if it has at most 200 instructions", CodeTest::theMostInstructions);
         Check.sentence("and a TIME of at most 20000", CodeTest::timeOfTheProgramIsAtMost20000);
         Check.sentence("and each of its procedures, too", CodeTest::timeOfEachProcedureToo);

@@ -26,6 +26,7 @@ public final class GrammarTest {
             char name = (char) letter;
             String text = name + "{}{}";
             String called = "A{}B{}C{}D{}{" + name + ";}";
+            noPrograms(name + "{}", "A{}" + name + "{}");
             if (letter >= 'A' && letter <= 'D') {
                 programs(text, called);
             } else {
@@ -63,12 +64,14 @@ public final class GrammarTest {
 
     private static void questions() {
         programs("{?a{}}", "{?a{}{}}", "{?a<b{}}", "{?a=b{}{}}", "{?a{}{}?b{}}", "{?a{}?b{}{}}", "{?(a){!1;}{!2;}}");
+        noPrograms("{?a{!1b=1;}", "{?a{!1b=1;}{}}", "{?a{}{!1b=1;}", "{?a{}{!1b=1;}{}}", "{?a{}{#1b=1;}");
         noPrograms("{?}", "{?a}", "{?a;}", "{?{}}", "{?{}{}}", "{?a{}{}{}}", "{?a{};}", "{?a{}{};}", "{?a{}{}", "{?a{}", "{?a}{}",
                 "{?a!1;}", "{?a{}!1;{}}", "{??a{}}");
     }
 
     private static void loops() {
         programs("{#1{}}", "{#a<1{}}", "{#1<1{}}", "{#1{}#a<1{}}", "{#1{a=1;}}", "{#a+1<5{}}", "{#[1]<1{}}");
+        noPrograms("{#1{!1b=1;}", "{#a<1{!1b=1;}", "{#1{?1b=1;}");
         noPrograms("{#}", "{#1}", "{#1;}", "{#{}}", "{#1{}{}}", "{#1{}", "{#1{};}", "{#a<}", "{#a<{}}", "{#a<3}", "{#a<3;}", "{#<3{}}",
                 "{#a<3{}{}}", "{#a<b{}}", "{#a<(3){}}", "{#a<[3]{}}", "{#a<-3{}}", "{#a<3+1{}}", "{#a<3*1{}}", "{#a=3{}}", "{##1{}}");
     }
@@ -76,6 +79,18 @@ public final class GrammarTest {
     private static void calls() {
         programs("A{}{A;}", "A{}{A;A;}", "A{}B{A;}{B;}", "A{}{?a{A;}{A;}}", "A{}{#2{A;}}");
         noPrograms("A{}{A}", "A{}{A;;}", "A{}{A=1;}", "A{}{a=A;}", "A{}{!A;}", "A{}{A{}}", "A{}{A();}", "A{}{?A{}}", "A{}{#A<1{}}");
+    }
+
+    /** A character that belongs to nothing is not passed over. */
+    private static void noOtherCharacters() {
+        String[] strange = {"`", "@", "E", "Z", "g", "z", "\"", "$", "%", "&", "'", ",", ".", ":", ">", "\\", "^", "_", "|", "~"};
+        String whole = "A{a=-1+[2]*b;}{?a<1{!(2);}{A;}#3{}#b<4{[5]=c=6;}}";
+        programs(whole);
+        for (String character : strange) {
+            for (int at = 0; at <= whole.length(); at++) {
+                noPrograms(whole.substring(0, at) + character + whole.substring(at));
+            }
+        }
     }
 
     private static void variables() {
@@ -222,12 +237,15 @@ public final class GrammarTest {
             dueFits(inBlocks(blocks, "!1+(2);"), blocks < 5);
             dueFits(inBlocks(blocks, "!1*-2;"), blocks < 5);
             dueFits(inBlocks(blocks, "!1<[2];"), blocks < 5);
+            dueFits(inBlocks(blocks, "!1=[2];"), blocks < 5);
         }
     }
 
     private static void besideOneAnotherIsNotDeeper() {
         dueFits("{!(((((1)))))+(((((2)))))-[[[[[3]]]]]*-----4;}", true);
         dueFits("{!(((((1)))))<(((((2)))));}", true);
+        dueFits("{!(((((1)))))=(((((2)))));}", true);
+        dueFits("{!(((((1)))))/(((((2)))));}", true);
         dueFits("{?1{?1{?1{?1{?1{}{}}{?1{}}}}}#1{#1{#1{#1{#1{}}}}}}", true);
         dueFits("{[((((0))))]=(((((1)))));}", true);
         dueFits("{[((((0))))]=((((((1))))));}", false);
@@ -317,6 +335,7 @@ public final class GrammarTest {
         Check.sentence("? value block [ block ]", GrammarTest::questions);
         Check.sentence("# number block or # value < number block", GrammarTest::loops);
         Check.sentence("name ;", GrammarTest::calls);
+        Check.sentence("A PROGRAM is built so", GrammarTest::noOtherCharacters);
         Check.sentence("variable = a, b, c, d, e or f", GrammarTest::variables);
         Check.sentence("value = sum [ < sum ] or sum = sum", GrammarTest::values);
         Check.sentence("sum = product { .. }, product = unit { .. }", GrammarTest::sumsAndProducts);

@@ -76,7 +76,37 @@ public final class OracleTest {
         }
     }
 
+    private static void compareVerdict(String text) {
+        Check.dueText("compile " + text, Check.compiled(text), verdict(text));
+    }
+
+    /** All texts that are one character off from a program: one is left out, put in, or another. */
+    private static void compareNeighbours(String text) {
+        for (int at = 0; at <= text.length(); at++) {
+            String head = text.substring(0, at);
+            for (char letter = '!'; letter <= '~'; letter++) {
+                compareVerdict(head + letter + text.substring(at));
+                if (at < text.length()) {
+                    compareVerdict(head + letter + text.substring(at + 1));
+                }
+            }
+            if (at < text.length()) {
+                compareVerdict(head + text.substring(at + 1));
+            }
+        }
+    }
+
+    private static void compareAllNeighbours() {
+        String[] texts = {"{}", "A{}{A;}", "A{B;}B{}{A;B;}", "D{!1;}{a=1+2*b;D;}", "{[1]=-2;![a];}", "{?a<b{!1;}{!2;}?a=b{}}",
+            "{#3{#b<9{!(a);}}}", "{#a+1<10{a=a-(b/2);}}", "{!-----1;!(((((a)))));}", "{#1{#1{#1{#1{#1{a=1;}}}}}}", "{#99{#99{a=1;}}}",
+            "A{?a{B;}{C;}}B{C;}C{}{#2{A;}}", "{[[1]]=[2]=[3];!999;#099{}}"};
+        for (String text : texts) {
+            compareNeighbours(text);
+        }
+    }
+
     public static void main(String[] args) {
+        compareAllNeighbours();
         Random random = new Random(20261115);
         Maker few = new Maker(1, 4);
         Maker many = new Maker(2, 100);
